@@ -33,7 +33,8 @@ public final class SandBank {
     private final Rounds rounds = new Rounds();
     private final Night dark = new Night();
     private final Shelf[] keptShelves = {new Shelf(), new Shelf()};
-    private final Tally[] keptTallies = {new Tally(), new Tally()};
+    /** How many were counted: since counts only grow until one comes back, that tells which. */
+    private final int[] keptCounts = new int[MOST_KEPT];
     private int kept = 0;
     private final int[] holdings = new int[HANDS];
 
@@ -326,7 +327,7 @@ public final class SandBank {
             return FULL;
         }
         keptShelves[kept].copyFrom(shelf);
-        keptTallies[kept].copyFrom(tally);
+        keptCounts[kept] = tally.size;
         kept++;
         return kept;
     }
@@ -337,7 +338,7 @@ public final class SandBank {
         }
         kept--;
         shelf.copyFrom(keptShelves[kept]);
-        tally.copyFrom(keptTallies[kept]);
+        tally.size = keptCounts[kept];
         changes.size = 0;
         return kept;
     }
@@ -814,13 +815,6 @@ public final class SandBank {
             minute[size] = m;
             grains[size] = n;
             size++;
-        }
-
-        void copyFrom(Tally other) {
-            size = other.size;
-            System.arraycopy(other.glass, 0, glass, 0, MOST);
-            System.arraycopy(other.minute, 0, minute, 0, MOST);
-            System.arraycopy(other.grains, 0, grains, 0, MOST);
         }
 
         int missing(int i, int told) {

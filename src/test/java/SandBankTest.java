@@ -28,6 +28,7 @@ public final class SandBankTest {
         pour();
         pourAtTheEdge();
         undo();
+        undoOfMany();
         undoForgets();
         later();
         falls();
@@ -73,6 +74,9 @@ public final class SandBankTest {
         refused(x, "1 undo", x::undo, NO);
         refused(x, "1 back", x::back, NO);
         due("1 a second glass", x.glass(1, 0), BAD);
+        due("1 no risk", x.night(0, 99, 0), 0);
+        due("1 turned alone", x.turn(0), 1);
+        due("1 turned back", x.undo(), 0);
         SandBank other = new SandBank();
         other.minutes(5);
         other.turn(0);
@@ -232,6 +236,19 @@ public final class SandBankTest {
         due("5 partner is A", x.glass(0, 5), 0);
         due("5 nothing tied", x.turn(0), 1);
         due("5 no risk", x.night(0, 500, 0), 0);
+        x.write(8, 0x7239392c39393b79L);
+        refused(x, "5 read, but not laid", x::lay, NO);
+        due("5 no risk of what was only read", x.night(0, 500, 0), 0);
+        x.wipe();
+        Checks.write(x, FIRST + "r99,99;");
+        x.lay();
+        due("5 a risk", x.night(0, 500, 0), 20);
+        for (int k = 0; k < 2; k++) {
+            x.wipe();
+            Checks.write(x, FIRST);
+            x.lay();
+            due("5 no risk any more", x.night(0, 500, 0), 0);
+        }
     }
 
     private static void glass() {
@@ -433,6 +450,39 @@ public final class SandBankTest {
         }
         due("11 the oldest are forgotten", x.glass(1, 1), 3);
         refused(x, "11 none of the forgotten", x::undo, NO);
+    }
+
+    private static void undoOfMany() {
+        SandBank x = Checks.laid(FIRST + "g0,2,3,1,50,50;g0,4,5,1,50,50;");
+        String[] states = new String[20];
+        for (int k = 0; k < 20; k++) {
+            states[k] = glasses(x);
+            int done = k % 3 == 0 ? x.turn(k % 2) : x.pour(1 + k % 2, k / 2 % 2, 2 - k % 2, k % 2, k);
+            due("11 done", done > 0 ? 1 : 0, 1);
+        }
+        for (int k = 19; k >= 12; k--) {
+            due("11 one of many", x.undo(), k - 12);
+            due("11 as ahead of " + k, glasses(x).equals(states[k]) ? 1 : 0, 1);
+        }
+        refused(x, "11 no more of many", x::undo, NO);
+        for (int k = 0; k < 8; k++) {
+            x.turn(0);
+        }
+        for (int k = 0; k < 8; k++) {
+            x.undo();
+        }
+        x.pour(0, 0, 0, 1, 1);
+        due("11 a pouring where a turn was", x.undo(), 0);
+        due("11 poured back", x.glass(0, 0), 20);
+        due("11 not turned", x.glass(0, 2), 0);
+    }
+
+    private static String glasses(SandBank x) {
+        StringBuilder all = new StringBuilder();
+        for (int i = 0; i < x.count(0); i++) {
+            all.append(java.util.Arrays.toString(Checks.glass(x, i)));
+        }
+        return all.toString();
     }
 
     private static void undoForgets() {
@@ -707,6 +757,14 @@ public final class SandBankTest {
         checks.dueRow("20 no later, no more", Checks.stolen(same, 0), 17, 7, NONE, 0);
         same.counted(0, 0, 20);
         checks.dueRow("20 since minute 0", Checks.stolen(same, 0), 17, 7, 0, 0);
+        SandBank first = new SandBank();
+        first.counted(0, 1, 20);
+        first.counted(0, 2, 19);
+        checks.dueRow("20 the first told", Checks.stolen(first, 0), 1, 2, 1, 0);
+        SandBank late = new SandBank();
+        late.counted(0, 2, 19);
+        late.counted(0, 1, 18);
+        checks.dueRow("20 the first told is false", Checks.stolen(late, 0), 2, 1, NONE, 1);
     }
 
     private static void split() {
@@ -767,26 +825,33 @@ public final class SandBankTest {
         }
     }
 
-    /** By 0 DRAW(1, 0) is 487; by 9999 the draws are worked out here with whole numbers. */
+    /** By 0 DRAW(1, 0) is 487; those of eight glasses are worked out here. */
     private static void nightOfSeveral() {
         SandBank x = Checks.laid(FIRST + "g0,2,3,5,50,1;r2,0;");
         due("22 one of two", x.night(0, 1, 1), 1);
         due("22 one of two: lost", x.night(0, 1, 0), 20);
         checks.dueRow("23 the other goes on", Checks.nightHas(x, 0, 1), 0, 0, 45, 6, 0, 0);
         SandBank eight = Checks.laid(FILLED.repeat(8) + "r40,0;");
-        boolean[] gone = new boolean[8];
-        int broken = 0;
-        for (int k = 0; k < 2000; k++) {
-            for (int i = 0; i < 8; i++) {
-                long part = (7919L * 9999 + 6151L * i + 3571L * k + 1) % 65521;
-                if (!gone[i] && part * part % 65521 % 1000 < 40) {
-                    gone[i] = true;
-                    broken++;
-                }
+        for (int z : new int[] {0, 1, 2, 77, 5000, 9998, 9999}) {
+            for (int t : new int[] {0, 1, 2, 3, 7, 20, 40, 2000}) {
+                int broken = brokenOfEight(z, t, 40);
+                due("22 broken by " + z + " in " + t, eight.night(z, t, 1), broken);
+                due("22 lost by " + z + " in " + t, eight.night(z, t, 0), 1998 * broken);
             }
         }
-        due("22 the longest: broken", eight.night(9999, 2000, 1), broken);
-        due("22 the longest: lost", eight.night(9999, 2000, 0), 1998 * broken);
+    }
+
+    private static int brokenOfEight(int z, int t, int below) {
+        int gone = 0;
+        for (int i = 0; i < 8; i++) {
+            boolean whole = true;
+            for (int k = 0; k < t && whole; k++) {
+                long rest = (7919L * z + 6151L * i + 3571L * k + 1) % 65521;
+                whole = rest * rest % 65521 % 1000 >= below;
+            }
+            gone += whole ? 0 : 1;
+        }
+        return gone;
     }
 
     private static void nightHas() {
