@@ -694,11 +694,14 @@ public final class SandBank {
             }
         }
 
+        /** Written without calls of its own: the longest of answers goes through it most often. */
         void letSandFall(Plan plan) {
             int[] most = flowIn(plan, minute);
             for (int i = 0; i < plan.glasses; i++) {
-                int upper = upperBulb(i);
-                move(upper, upper ^ 1, Math.min(sand[upper], most[i]));
+                int upper = 2 * i + (up >> i & 1);
+                int grains = Math.min(sand[upper], most[i]);
+                sand[upper] -= grains;
+                sand[upper ^ 1] += grains;
             }
             minute++;
         }

@@ -94,9 +94,9 @@ public final class LanguageTest {
         }
         checks.due("1 face " + seen,
                 seen.equals(new TreeSet<>(Arrays.asList(FACE.split(" ")))) ? 0 : 1, 0);
-        for (Method m : SandBank.class.getDeclaredMethods()) {
-            boolean twice = Modifier.isPrivate(m.getModifiers()) && names.contains(m.getName());
-            checks.due("1 private and public name " + m, twice ? 1 : 0, 0);
+        ownNames(SandBank.class, names);
+        for (Class<?> c : SandBank.class.getDeclaredClasses()) {
+            ownNames(c, names);
         }
         int open = 0;
         for (Field f : SandBank.class.getDeclaredFields()) {
@@ -105,6 +105,14 @@ public final class LanguageTest {
         checks.due("1 constants alone are seen", open, 4);
         checks.due("1 one constructor", SandBank.class.getDeclaredConstructors().length, 1);
         checks.due("1 final", Modifier.isFinal(SandBank.class.getModifiers()) ? 1 : 0, 1);
+    }
+
+    /** What is not of the face bears no name of it. */
+    private static void ownNames(Class<?> c, Set<String> names) {
+        for (Method m : c.getDeclaredMethods()) {
+            boolean twice = !Modifier.isPublic(m.getModifiers()) && names.contains(m.getName());
+            checks.due("1 private and public name " + m, twice ? 1 : 0, 0);
+        }
     }
 
     private static void classes() {

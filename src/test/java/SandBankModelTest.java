@@ -31,6 +31,9 @@ public final class SandBankModelTest {
     private void play() {
         tellText();
         for (int k = 0; k < CALLS; k++) {
+            if (random.nextInt(100) == 0) {
+                changeAndUndo();
+            }
             step(random.nextInt(100));
         }
         due("end", Checks.state(bank).length() > 0 ? bank.count(3) : 0, model.count(3));
@@ -189,6 +192,19 @@ public final class SandBankModelTest {
             tellText();
         } else {
             due("lay", bank.lay(), model.lay());
+        }
+    }
+
+    /** More turns and pourings than are known, and all of them undone that can be. */
+    private void changeAndUndo() {
+        for (int k = 0; k < 12; k++) {
+            step(10 + random.nextInt(20));
+        }
+        for (int k = 0; k < 9; k++) {
+            due("undo of many", bank.undo(), model.undo());
+            for (int h = 0; h < 6; h++) {
+                due("has " + h, bank.has(h), model.has(h));
+            }
         }
     }
 
