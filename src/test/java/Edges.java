@@ -1,0 +1,109 @@
+import java.lang.reflect.InvocationTargetException;
+import java.lang.reflect.Method;
+import java.util.Arrays;
+import java.util.Comparator;
+import java.util.function.ToIntFunction;
+
+/** Runs the tests of a class, each named after its promise, and compares answers at edges. */
+final class Edges {
+    static final int BAD = SandBank.BAD, NO = SandBank.NO;
+    static final int FULL = SandBank.FULL, NONE = SandBank.NONE;
+
+    /** A call of which one number is tried. */
+    interface Tried {
+        int on(Bank bank, int number);
+    }
+
+    private int right = 0;
+    private int wrong = 0;
+    private int tests = 0;
+    private String test = "";
+
+    /** Runs every method whose name begins with promise; exit code 1 if an answer was wrong. */
+    void run(Class<?> of) {
+        Method[] all = of.getDeclaredMethods();
+        Arrays.sort(all, Comparator.comparing(Method::getName));
+        for (Method m : all) {
+            if (m.getName().startsWith("promise")) {
+                runOne(m);
+            }
+        }
+        System.out.println(of.getName() + ": " + tests + " tests, " + right + " answers as due, "
+                + wrong + " not");
+        if (wrong != 0 || tests == 0) {
+            System.exit(1);
+        }
+    }
+
+    private void runOne(Method m) {
+        test = m.getName();
+        tests++;
+        int before = right + wrong;
+        try {
+            m.setAccessible(true);
+            m.invoke(null);
+        } catch (InvocationTargetException e) {
+            fails("threw " + e.getCause());
+        } catch (IllegalAccessException e) {
+            fails("can't be run: " + e);
+        }
+        if (right + wrong == before) {
+            fails("compares nothing");
+        }
+    }
+
+    private void fails(String how) {
+        wrong++;
+        System.out.println(test + ": " + how);
+    }
+
+    void due(String call, int got, int want) {
+        if (got == want) {
+            right++;
+        } else {
+            fails(call + " answered " + got + ", due is " + want);
+        }
+    }
+
+    void dueRow(String call, int[] got, int... want) {
+        if (Arrays.equals(got, want)) {
+            right++;
+        } else {
+            fails(call + " answered " + Arrays.toString(got) + ", due is " + Arrays.toString(want));
+        }
+    }
+
+    void same(String what, String got, String want) {
+        if (got.equals(want)) {
+            right++;
+        } else {
+            fails(what + "\n" + got + "\ndue is\n" + want);
+        }
+    }
+
+    /** A call that is refused: its answer is due, and nothing changes by it. The bank stays. */
+    void refused(String call, Bank bank, ToIntFunction<Bank> made, int want) {
+        Bank tried = bank.twin();
+        due(call, made.applyAsInt(tried), want);
+        same(call + " changed something", Look.all(tried), Look.all(bank));
+    }
+
+    /** A call that only looks: nothing changes by it. The bank stays. */
+    void stays(String call, Bank bank, ToIntFunction<Bank> made) {
+        Bank tried = bank.twin();
+        made.applyAsInt(tried);
+        same(call + " changed something", Look.all(tried), Look.all(bank));
+    }
+
+    /**
+     * A number that is told from low to high: both are taken, with the answers that are due, the
+     * next ones to either side, and those far off, are BAD. The bank stays.
+     */
+    void range(String number, Bank bank, Tried call, int low, int atLow, int high, int atHigh) {
+        due(number + " " + low, call.on(bank.twin(), low), atLow);
+        due(number + " " + high, call.on(bank.twin(), high), atHigh);
+        for (int off : new int[] {low - 1, high + 1, Integer.MIN_VALUE, Integer.MAX_VALUE}) {
+            refused(number + " " + off, bank, b -> call.on(b, off), BAD);
+        }
+    }
+}
