@@ -6,7 +6,7 @@ public final class CountsEdgesTest {
     private static final Edges edges = new Edges();
 
     public static void main(String[] args) {
-        edges.run(CountsEdgesTest.class);
+        edges.run(CountsEdgesTest.class, 19, 21);
     }
 
     /** A bank with something to undo, something kept, and one counted. */

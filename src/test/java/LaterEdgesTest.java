@@ -8,7 +8,7 @@ public final class LaterEdgesTest {
     private static final Edges edges = new Edges();
 
     public static void main(String[] args) {
-        edges.run(LaterEdgesTest.class);
+        edges.run(LaterEdgesTest.class, 12, 18);
     }
 
     private static Bank busy(String text) {
@@ -308,6 +308,14 @@ public final class LaterEdgesTest {
         run(NOTHING.repeat(8), 0, 0, 0, 0);
         run(FIRST + NOTHING + NOTHING, 0, 1, 0, 10);
         run("g0,0,1,2,22,0;g0,0,1,2,20,0;g0,0,1,2,21,0;", 0, 1, 10, 11);
+    }
+
+    static void promise17RunBehindHowManyAllDo() {
+        run("g0,0,1,1,5,0;g0,0,1,1,7,0;g0,0,1,1,6,0;", 0, 0, 5, 7);
+        run("g0,0,1,1,5,0;g0,0,1,1,6,0;g0,0,1,1,7,0;", 0, 0, 5, 7);
+        run("g0,0,1,1,7,0;g0,0,1,1,6,0;g0,0,1,1,5,0;", 0, 2, 5, 7);
+        run(NOTHING.repeat(7) + "g0,0,1,1,1,0;", 0, 0, 0, 1);
+        run(NOTHING.repeat(7) + "g1,0,1,1,999,0;", 0, 0, 0, 1498);
     }
 
     static void promise17RunWithoutClerks() {

@@ -39,6 +39,13 @@ final class Look {
         return now(bank.twin()) + ahead(bank.twin());
     }
 
+    /** The glasses alone, without how many can be undone. */
+    static String glasses(Bank bank) {
+        StringBuilder s = new StringBuilder();
+        glasses(s, bank.twin(), 6);
+        return s.toString();
+    }
+
     private static String now(Bank bank) {
         StringBuilder s = new StringBuilder("now ").append(Arrays.toString(counts(bank)))
                 .append(Arrays.toString(has(bank))).append(bank.fault());

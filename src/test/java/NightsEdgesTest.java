@@ -6,7 +6,7 @@ public final class NightsEdgesTest {
     private static final Edges edges = new Edges();
 
     public static void main(String[] args) {
-        edges.run(NightsEdgesTest.class);
+        edges.run(NightsEdgesTest.class, 22, 26);
     }
 
     /** A bank with something to undo, something kept, and one counted. */
@@ -214,6 +214,8 @@ public final class NightsEdgesTest {
         nightHas("g0,0,1,2,20,7;r2,0;", 0, 0, 20, 7, 0, 0, 0, 0);
         nightHas("g0,0,1,2,20,7;r2,0;", 0, 1, 0, 0, 0, 0, 0, 0);
         nightHas("g0,0,1,2,20,7;r2,0;", 0, 2000, 0, 0, 0, 0, 0, 0);
+        nightHas("g0,0,1,2,20,7;c0,99,0;r2,0;", 0, 1, 0, 0, 0, 0, 0, 0);
+        nightHas("g2,0,1,2,20,7;c0,1,0;p0,5;r2,0;", 0, 2, 0, 0, 0, 0, 0, 0);
         nightHas("g0,0,1,2,20,7;g0,2,3,2,20,7;r2,0;", 0, 1, 0, 0, 18, 9, 0, 0);
     }
 

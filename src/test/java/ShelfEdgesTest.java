@@ -7,7 +7,7 @@ public final class ShelfEdgesTest {
     private static final Edges edges = new Edges();
 
     public static void main(String[] args) {
-        edges.run(ShelfEdgesTest.class);
+        edges.run(ShelfEdgesTest.class, 6, 11);
     }
 
     /** A bank with something to undo and something kept, which a refused call must not lose. */
@@ -300,9 +300,11 @@ public final class ShelfEdgesTest {
     static void promise10PourOfSuchAsThereAre() {
         Bank bank = busy("g0,0,1,2,30,4;g0,0,1,2,50,6;");
         edges.range("from glass", bank, (b, i) -> b.pour(i, 0, 0, 1, 2), 0, 7, 1, 7);
-        edges.range("from bulb", bank, (b, s) -> b.pour(0, s, 1, 0, 2), 0, 52, 1, 52);
+        edges.range("from bulb", bank, (b, s) -> b.pour(0, s, 1, 1, 2), 0, 8, 1, 8);
+        edges.range("from bulb of 1", bank, (b, s) -> b.pour(1, s, 0, 0, 2), 0, 31, 1, 31);
         edges.range("into glass", bank, (b, j) -> b.pour(0, 0, j, 1, 2), 0, 7, 1, 8);
         edges.range("into bulb", bank, (b, r) -> b.pour(0, 0, 1, r, 2), 0, 52, 1, 8);
+        edges.range("into bulb of 0", bank, (b, r) -> b.pour(1, 1, 0, r, 2), 0, 31, 1, 7);
         Bank eight = busy(FILLED.repeat(8));
         edges.range("from glass of 8", eight, (b, i) -> b.pour(i, 1, 3, 0, 1), 0, 1000, 7, 1000);
         edges.range("into glass of 8", eight, (b, j) -> b.pour(3, 0, j, 1, 1), 0, 1001, 7, 1000);
@@ -405,14 +407,49 @@ public final class ShelfEdgesTest {
         Bank bank = Bank.laid("g0,0,1,2,20,0;g0,2,3,2,20,0;y0,1;");
         String[] seen = new String[8];
         for (int k = 0; k < 8; k++) {
-            seen[k] = Look.shelf(bank).replaceFirst("\\[[^]]*]", "");
+            seen[k] = Look.glasses(bank);
             edges.due("done", (k % 2 == 0 ? bank.turn(k / 4) : bank.pour(k / 4, 0, 1, 1, k)) > 0
                     ? 1 : 0, 1);
         }
         for (int k = 7; k >= 0; k--) {
             edges.due("undo", bank.undo(), k);
-            edges.same("as ahead of " + k, Look.shelf(bank).replaceFirst("\\[[^]]*]", ""), seen[k]);
+            edges.same("as ahead of " + k, Look.glasses(bank), seen[k]);
         }
+    }
+
+    /** Turns and pourings of different glasses, more of them than are known. */
+    static void promise11UndoOfEightUnlikeEachOther() {
+        for (int n = 7; n <= 18; n++) {
+            Bank bank = Bank.laid("g0,0,1,2,500,500;g0,2,3,2,500,500;g0,4,5,2,500,500;y2,0;");
+            String[] seen = new String[n];
+            for (int k = 0; k < n; k++) {
+                seen[k] = Look.glasses(bank);
+                if (k % 3 == 1) {
+                    edges.due("turned", bank.turn(k % 4 == 0 ? 2 : 1), k % 4 == 0 ? 2 : 1);
+                } else {
+                    int there = bank.glass(2, k / 3 % 2);
+                    edges.due("poured", bank.pour(k % 2, k / 2 % 2, 2, k / 3 % 2, k + 1), there + k + 1);
+                }
+            }
+            edges.due("all done", bank.count(4), Math.min(n, 8));
+            for (int k = n - 1; k >= Math.max(0, n - 8); k--) {
+                bank.undo();
+                edges.same("as ahead of " + k, Look.glasses(bank), seen[k]);
+            }
+            edges.refused("no more", bank, Bank::undo, NO);
+        }
+    }
+
+    static void promise11UndoOfOneInAnothersPlace() {
+        Bank bank = Bank.laid("g0,0,1,2,20,0;");
+        bank.turn(0);
+        bank.undo();
+        bank.pour(0, 0, 0, 1, 3);
+        edges.due("the pouring", bank.undo(), 0);
+        edges.dueRow("poured back, not turned", Look.glass(bank, 0), 20, 0, 0, 0, 2, 0);
+        bank.turn(0);
+        edges.due("the turn", bank.undo(), 0);
+        edges.dueRow("turned back, not poured", Look.glass(bank, 0), 20, 0, 0, 0, 2, 0);
     }
 
     static void promise11UndoMakesRoomForMore() {

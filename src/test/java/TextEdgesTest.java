@@ -12,7 +12,7 @@ public final class TextEdgesTest {
     private static final Edges edges = new Edges();
 
     public static void main(String[] args) {
-        edges.run(TextEdgesTest.class);
+        edges.run(TextEdgesTest.class, 1, 5);
     }
 
     /** A bank that has something of all that a lay would end. */
@@ -54,7 +54,9 @@ public final class TextEdgesTest {
         edges.dueRow("glass 0", Look.glass(bank, 0), 20, 0, 0, 0, 2, 0);
         edges.dueRow("has", Look.has(bank), 20, 0, 0, 0, 0, 0);
         edges.due("glass 1", bank.glass(1, 0), BAD);
-        edges.due("night without risks", bank.night(0, 99, 0), 0);
+        edges.due("none breaks of what draws 0", bank.night(1415, 1, 1), 0);
+        edges.due("no mouse comes to what draws 0", bank.night(1415, 1, 0), 0);
+        edges.due("the longest night without risks", bank.night(9999, 2000, 0), 0);
         Bank told = Bank.laid(FIRST);
         told.wipe();
         edges.same("laid by the text", Look.all(told), Look.all(new Bank()));
