@@ -243,7 +243,8 @@ public final class SandBank {
     }
 
     public int round(int l, int n, int i) {
-        if (!within(l, 1, Rounds.LONGEST) || !within(n, 1, 200) || !within(i, -1, l - 1)) {
+        if (!within(l, 1, Rounds.LONGEST) || !within(n, 1, Rounds.MOST_MINUTES)
+                || !within(i, -1, l - 1)) {
             return BAD;
         }
         rounds.search(plan, shelf, ahead, l, n);
@@ -879,6 +880,9 @@ public final class SandBank {
     /** The search for the round by which the fewest glasses stand. */
     private static final class Rounds {
         private static final int LONGEST = 3;
+        private static final int MOST_MINUTES = 200;
+        /** More than can stand, each glass in each minute. */
+        private static final int TOO_MANY = MOST_ITEMS * MOST_MINUTES + 1;
         private final int[] row = new int[LONGEST];
         private final int[] best = new int[LONGEST];
         private int fewest = 0;
@@ -890,7 +894,7 @@ public final class SandBank {
                 row[k] = 0;
                 rows *= k < l ? plan.glasses : 1;
             }
-            fewest = Integer.MAX_VALUE;
+            fewest = TOO_MANY;
             for (int tried = 0; tried < rows; tried++) {
                 ahead.copyFrom(now);
                 int stood = stoodBy(plan, ahead, l, n);

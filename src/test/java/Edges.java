@@ -9,6 +9,8 @@ final class Edges {
     static final int BAD = SandBank.BAD, NO = SandBank.NO;
     static final int FULL = SandBank.FULL, NONE = SandBank.NONE;
 
+    private static final int LAST_PROMISE = 26;
+
     /** A call of which one number is tried. */
     interface Tried {
         int on(Bank bank, int number);
@@ -24,24 +26,40 @@ final class Edges {
      * was wrong, or if one of the promises from first to last has no test.
      */
     void run(Class<?> of, int first, int last) {
-        Method[] all = of.getDeclaredMethods();
-        Arrays.sort(all, Comparator.comparing(Method::getName));
         for (int promise = first; promise <= last; promise++) {
-            String name = "promise" + promise / 10 + promise % 10;
-            int before = tests;
-            for (Method m : all) {
-                if (m.getName().startsWith(name)) {
-                    runOne(m);
-                }
-            }
-            if (tests == before) {
-                test = name;
+            if (runPromise(of, promise) == 0) {
+                test = "promise " + promise;
                 fails("has no test");
             }
         }
+        close(of);
+    }
+
+    /** The same, of a class that has tests of some of the promises. */
+    void runSome(Class<?> of) {
+        for (int promise = 1; promise <= LAST_PROMISE; promise++) {
+            runPromise(of, promise);
+        }
+        close(of);
+    }
+
+    private int runPromise(Class<?> of, int promise) {
+        String name = "promise" + promise / 10 + promise % 10;
+        Method[] all = of.getDeclaredMethods();
+        Arrays.sort(all, Comparator.comparing(Method::getName));
+        int before = tests;
+        for (Method m : all) {
+            if (m.getName().startsWith(name)) {
+                runOne(m);
+            }
+        }
+        return tests - before;
+    }
+
+    private void close(Class<?> of) {
         System.out.println(of.getName() + ": " + tests + " tests, " + right + " answers as due, "
                 + wrong + " not");
-        if (wrong != 0) {
+        if (wrong != 0 || tests == 0) {
             System.exit(1);
         }
     }

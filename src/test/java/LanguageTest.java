@@ -42,6 +42,7 @@ public final class LanguageTest {
         absent("2 lambdas", code, "->|::");
         absent("4 imports", code, "\\b(import|package)\\b");
         absent("4 library", code, "\\b(System\\.(?!arraycopy\\b)\\w+|Thread|Random|Object|Exact)\\b");
+        absent("4 library's constants", code, "\\b(Integer|Long|Short|Byte|Math)\\.[A-Z]\\w*");
         absent("4 exact", code, "\\w+Exact\\b");
         absent("13 native", code, "\\b(native|volatile|transient|strictfp)\\b");
         absent("5 static state", code, "\\bstatic\\s+(?!final\\b)[\\w\\[\\]]+\\s+\\w+\\s*[=;]");

@@ -28,6 +28,18 @@ final class Look {
         return row(4, what -> bank.stolen(i, what));
     }
 
+    static int[] later(Bank bank, int t) {
+        return row(6, h -> bank.later(t, h));
+    }
+
+    static int[] split(Bank bank, int r) {
+        return row(6, h -> bank.split(r, h));
+    }
+
+    static int[] nightHas(Bank bank, int z, int t) {
+        return row(6, h -> bank.nightHas(z, t, h));
+    }
+
     /** All that can be seen of a bank. It is looked at by twins, so that it stays as it is. */
     static String all(Bank bank) {
         return now(bank.twin()) + ahead(bank.twin()) + undone(bank.twin()) + cameBack(bank.twin())
